@@ -322,26 +322,20 @@ public final class BusRanges {
         if (!now.isEndpoint(device)) {
             return NO_SUCH;
         }
-        if (wouldBeOn(device, NONE)) {
-            return NONE;
-        }
-        for (int i = 0; i < now.walked; i++) {
+        // The first round unplugs NONE: if that will do, NONE is the answer, too.
+        for (int i = -1; i < now.walked; i++) {
             int other = now.walkAt(i);
-            if (other != device && now.isEndpoint(other) && wouldBeOn(device, other)) {
+            if (i >= 0 && (other == device || !now.isEndpoint(other))) {
+                continue;
+            }
+            Tree tree = copyOfNow();
+            tree.remove(other);
+            power.run(tree);
+            if (tree.isOn(device)) {
                 return other;
             }
         }
         return NONE;
-    }
-
-    /** Whether POWER-UP would leave a DEVICE ON, were another one unplugged (NONE: none). */
-    private boolean wouldBeOn(int device, int without) {
-        Tree tree = copyOfNow();
-        if (without != NONE) {
-            tree.remove(without);
-        }
-        power.run(tree);
-        return tree.isOn(device);
     }
 
     public int chance(int seed, int below, int what) {
@@ -1211,17 +1205,19 @@ public final class BusRanges {
             tree.turnAllOff();
             tree.refusals = 0;
             numberBus(tree, NONE, 1, 0);
-            // Each round refuses one more DEVICE.
+            // Each round refuses one more DEVICE; the last one measures those that are left.
             for (int round = 0; round < DEVICES; round++) {
-                int kind = crowdedKind(tree);
-                if (kind == NONE) {
+                int kind = 0;
+                while (kind < KINDS && measure(tree, kind) <= tree.spaceOf(kind)) {
+                    kind++;
+                }
+                if (kind == KINDS) {
                     break;
                 }
                 int greedy = tree.mostUnits(kind, true);
                 tree.refuse(greedy != NONE ? greedy : tree.mostLeft());
             }
             for (int kind = 0; kind < KINDS; kind++) {
-                measure(tree, kind);
                 layBus(tree, NONE, kind);
                 for (int i = 0; i < tree.walked; i++) {
                     if (isOnBridge(tree, tree.walkAt(i))) {
@@ -1251,15 +1247,6 @@ public final class BusRanges {
                 }
             }
             return next;
-        }
-
-        private int crowdedKind(Tree tree) {
-            for (int kind = 0; kind < KINDS; kind++) {
-                if (measure(tree, kind) > tree.spaceOf(kind)) {
-                    return kind;
-                }
-            }
-            return NONE;
         }
 
         /** Gives each ON BRIDGE the size and ALIGN of its WINDOW: NEED of the HOST's BUS. */
@@ -1425,7 +1412,8 @@ public final class BusRanges {
                     chosen[i] = i;
                 }
                 for (int row = 0; row < MOST_ROWS; row++) {
-                    if (layDown(tree, device, at, kind, length)) {
+                    takeUp(tree, device, kind, length);
+                    if (layDown(tree, at, kind)) {
                         return true;
                     }
                     if (!nextRow(length)) {
@@ -1449,8 +1437,7 @@ public final class BusRanges {
             return false;
         }
 
-        private boolean layDown(Tree tree, int device, int at, int kind, int length) {
-            takeUp(tree, device, kind, length);
+        private boolean layDown(Tree tree, int at, int kind) {
             int begin = tree.begin(at, kind);
             int end = begin + tree.length(at, kind);
             for (int i = 0; i < loose.count && i < Shelf.CAPACITY; i++) {

@@ -1,6 +1,6 @@
 import java.lang.reflect.Method;
-import java.lang.reflect.Modifier;
 import java.util.ArrayList;
+import java.util.Arrays;
 import java.util.List;
 
 /** The document's public face, for tests that go through all calls. */
@@ -38,7 +38,7 @@ final class Face {
         Method[] found = new Method[CALLS.length];
         for (int i = 0; i < found.length; i++) {
             Class<?>[] kinds = new Class<?>[arguments(i)];
-            java.util.Arrays.fill(kinds, int.class);
+            Arrays.fill(kinds, int.class);
             found[i] = type.getDeclaredMethod(name(i), kinds);
         }
         return found;
@@ -53,7 +53,7 @@ final class Face {
         return answer instanceof Boolean ? ((Boolean) answer ? 1 : 0) : (Integer) answer;
     }
 
-    /** All that can be seen of an object (no ACT is done, and NEED of nothing). */
+    /** All that is told of what there is (nothing is done). */
     static List<Integer> all(Method[] methods, Object on) throws Exception {
         List<Integer> seen = new ArrayList<>();
         for (int what = 0; what < 10; what++) {
@@ -75,7 +75,39 @@ final class Face {
         return seen;
     }
 
-    static boolean isPublic(int modifiers) {
-        return Modifier.isPublic(modifiers);
+    /** All that can be worked out of what there is (nothing is done). */
+    static List<Integer> more(Method[] methods, Object on) throws Exception {
+        List<Integer> seen = new ArrayList<>();
+        for (int i = -1; i <= 20; i++) {
+            for (String name : new String[] {"bus", "spare", "place", "blame", "would", "moves", "greediest", "law"}) {
+                seen.add(call(methods[indexOf(name)], on, i));
+            }
+            for (int k = -1; k <= 2; k++) {
+                for (String name : new String[] {"need", "align", "gap", "room"}) {
+                    seen.add(call(methods[indexOf(name)], on, i, k));
+                }
+                seen.add(call(methods[indexOf("wire")], on, i, k));
+                seen.add(call(methods[indexOf("fill")], on, i, k, Math.floorMod(i + k, 9)));
+            }
+            for (int j = -1; j <= 20; j++) {
+                seen.add(call(methods[indexOf("hops")], on, i, j));
+                seen.add(call(methods[indexOf("common")], on, i, j));
+                seen.add(call(methods[indexOf("find")], on, i, j));
+            }
+            for (int address = -1; address < 300; address += 1 + Math.abs(i)) {
+                seen.add(call(methods[indexOf("peer")], on, i, address & 1, address, 0));
+                seen.add(call(methods[indexOf("peer")], on, i, address >> 1 & 1, address, 1));
+                seen.add(call(methods[indexOf("peer")], on, i, address >> 2 & 1, address, 2));
+            }
+        }
+        for (int address = -2; address < 1030; address++) {
+            seen.add(call(methods[indexOf("owner")], on, address & 1, address));
+            seen.add(call(methods[indexOf("way")], on, address & 1, address));
+        }
+        for (int i = 0; i < 30; i++) {
+            seen.add(call(methods[indexOf("chance")], on, i * 37 % 1000, i * 17 % 101, i % 3));
+            seen.add(call(methods[indexOf("units")], on, i % 2, i % 4));
+        }
+        return seen;
     }
 }

@@ -21,34 +21,147 @@ public final class ModelTest {
     }
 
     public static void main(String[] args) throws Exception {
-        int runs = args.length > 0 ? Integer.parseInt(args[0]) : 150;
+        int runs = args.length > 0 ? Integer.parseInt(args[0]) : 100;
         long seed = args.length > 1 ? Long.parseLong(args[1]) : 1;
         ModelTest test = new ModelTest(seed);
-        for (int run = 0; run < runs; run++) {
-            if (!test.run(run)) {
-                break;
-            }
+        boolean right = true;
+        for (int run = 0; run < runs && right; run++) {
+            right = test.run(run);
+        }
+        for (int run = 0; run < 10 * runs && right; run++) {
+            test.renew("crowd " + run + ":");
+            right = test.crowd();
         }
         Due.end();
     }
 
     private boolean run(int number) throws Exception {
-        object = new BusRanges();
-        model = new Model();
-        told = new StringBuilder("run " + number + ":");
+        renew("run " + number + ":");
         small = random.nextInt(3) == 0;
         int style = random.nextInt(4);
-        for (int i = 0; i < 512; i++) {
-            boolean right = random.nextInt(100) < (i < 60 ? 80 : 40) ? change(style) : ask();
+        boolean crowded = random.nextInt(3) == 0;
+        if (crowded && !crowd()) {
+            return false;
+        }
+        if (!crowded && style > 1 && !both("space", random.nextInt(2), 8 << random.nextInt(5))) {
+            return false;
+        }
+        for (int i = 0; i < 400; i++) {
+            boolean right;
+            if (crowded && random.nextInt(2) == 0) {
+                right = squeeze();
+            } else {
+                right = random.nextInt(100) < (i < 60 ? 80 : 40) ? change(style) : ask();
+            }
             if (!right) {
                 return false;
             }
-            if (i % 16 == 0 && !Face.all(mine, object).equals(Face.all(models, model))) {
-                Due.is(told + " all that there is", 0, 1);
+            if (i % 16 == 0 && !same() || i % 128 == 64 && !alsoSame()) {
                 return false;
             }
         }
         return true;
+    }
+
+    private boolean alsoSame() throws Exception {
+        boolean same = Face.more(mine, object).equals(Face.more(models, model));
+        if (!same) {
+            Due.is(told + " all that can be worked out", 0, 1);
+        }
+        return same;
+    }
+
+    private void renew(String name) {
+        object = new BusRanges();
+        model = new Model();
+        told = new StringBuilder(name);
+    }
+
+    private boolean same() throws Exception {
+        boolean same = Face.all(mine, object).equals(Face.all(models, model));
+        if (!same) {
+            Due.is(told + " all that there is", 0, 1);
+        }
+        return same;
+    }
+
+    /** A BUS of small APERTURES with gaps between them, and one more ENDPOINT, for REBALANCE. */
+    private boolean crowd() throws Exception {
+        int size = 16 + 8 * random.nextInt(5);
+        int at = random.nextInt(2) == 0 ? BusRanges.NONE : 0;
+        boolean right = both("space", 0, at == 0 ? 256 : size) && both("space", 1, at == 0 ? 256 : size);
+        if (at == 0) {
+            right = right && both("bridge", BusRanges.NONE, 0, 2, size) && both("start", 0);
+        }
+        if (right && random.nextInt(4) == 0) {
+            right = both("bridge", at, random.nextInt(8), 0, 16) && both("start", object.about(0) - 1);
+        }
+        int first = object.about(0);
+        int own = random.nextInt(8);
+        for (int slot = 0; slot < 8 && right; slot++) {
+            if (slot != own) {
+                right = both("endpoint", at, slot) && crowdOne();
+            }
+        }
+        int count = object.about(0) - first;
+        for (int i = 0; i < 4 * count && right; i++) {
+            right = both("start", first + random.nextInt(count));
+        }
+        for (int i = 0; i < count / 2 && right; i++) {
+            right = both("stop", first + random.nextInt(count));
+        }
+        for (int i = random.nextInt(3); i > 0 && right; i--) {
+            right = both("start", first + random.nextInt(count));
+        }
+        return right && (object.find(at + 1, own) != BusRanges.NONE || squeezeIn(at, own));
+    }
+
+    private boolean crowdOne() throws Exception {
+        int device = object.about(0) - 1;
+        boolean right = true;
+        for (int a = random.nextInt(3); a >= 0 && right; a--) {
+            right = both("aperture", device, random.nextInt(5) / 4, random.nextInt(5) / 2);
+        }
+        return right;
+    }
+
+    /** An ENDPOINT with about as much as all gaps have. */
+    private boolean squeezeIn(int at, int slot) throws Exception {
+        boolean right = both("endpoint", at, slot);
+        int device = object.about(0) - 1;
+        int gap = object.gap(at, 0);
+        for (int a = 0; a < 3 && right; a++) {
+            int e = Math.max(0, 31 - Integer.numberOfLeadingZeros(Math.max(1, gap)) - random.nextInt(2));
+            right = both("aperture", device, 0, Math.min(e, 8));
+            gap -= 1 << e;
+            if (gap <= 0 || random.nextInt(2) == 0) {
+                break;
+            }
+        }
+        right = right && both("moves", device) && both("place", device) && both("start", device);
+        if (right && object.device(device, 3) == 1) {
+            right = both("stop", device);
+        }
+        return right && both("rebalance", device) && same();
+    }
+
+    private boolean squeeze() throws Exception {
+        int device = device();
+        switch (random.nextInt(8)) {
+            case 0:
+                return both("aperture", device, random.nextInt(4) / 3, random.nextInt(5));
+            case 1:
+                return both("start", device);
+            case 2:
+                return both("stop", device);
+            case 3:
+                return both("rebalance", device);
+            case 4:
+                return object.device(device, 0) != 0 || both("unplug", device)
+                        && both("endpoint", bus(), slot()) && both("aperture", device, 0, 2 + random.nextInt(3));
+            default:
+                return both("moves", device);
+        }
     }
 
     private boolean change(int style) throws Exception {

@@ -24,6 +24,7 @@ public final class PromisesTest {
         promise8Refused();
         promise8RefusedBridges();
         promise8Kinds();
+        promise8Many();
         promise9();
         promise10Endpoint();
         promise10Bridge();
@@ -31,6 +32,7 @@ public final class PromisesTest {
         promise11();
         promise12();
         promise12Rows();
+        promise12Three();
         promise12Kinds();
         promise12Wrong();
         promise13();
@@ -315,6 +317,15 @@ public final class PromisesTest {
         ask("behind five, what is behind it", deep.shift(5, 3, 1), false);
         ask("behind four, what is behind it", deep.shift(5, 2, 1), true);
         ask("behind an OFF BRIDGE", deep.device(6, 3), 0);
+        BusRanges low = new BusRanges();
+        low.endpoint(NONE, 0);
+        low.bridge(NONE, 1, 0, 0);
+        for (int i = 0; i < 4; i++) {
+            low.bridge(i == 0 ? NONE : i + 1, 2, 0, 0);
+        }
+        low.shift(0, 1, 0);
+        ask("DEVICE 0 would be behind five", low.shift(1, 5, 1), false);
+        ask("DEVICE 0 behind four", low.shift(1, 4, 1), true);
     }
 
     private static void promise7() {
@@ -525,6 +536,39 @@ public final class PromisesTest {
         Due.are("the other goes first then", bases(x, 1), 0);
     }
 
+    private static void promise8Many() {
+        BusRanges x = new BusRanges();
+        x.space(0, 0);
+        x.bridge(NONE, 0, 0, 1);
+        x.bridge(NONE, 1, 0, 1);
+        for (int i = 2; i < 20; i++) {
+            endpoint(x, i < 10 ? 0 : i < 18 ? 1 : NONE, i < 18 ? (i - 2) % 8 : i - 14, 0, 0);
+        }
+        ask("all 20 are too many", x.powerUp(), 0);
+        Due.are("ENDPOINTS, then BRIDGES", refused(x),
+                2, 3, 4, 5, 6, 7, 8, 9, 10, 11, 12, 13, 14, 15, 16, 17, 18, 19, 0, 1);
+        x = new BusRanges();
+        x.space(0, 24);
+        for (int i = 0; i < 8; i++) {
+            endpoint(x, NONE, i, 0, 0, 0, 0, 0, 0);
+        }
+        ask("24 THINGS on a BUS", x.powerUp(), 8);
+        Due.are("the last ones", bases(x, 7), 21, 22, 23);
+        ask("no unit is left", x.gap(NONE, 0), 0);
+        x.stop(3);
+        ask("START among them", x.start(3), 3);
+        Due.are("where it was", bases(x, 3), 9, 10, 11);
+        x = new BusRanges();
+        x.bridge(NONE, 7, 0, 0);
+        x.start(0);
+        for (int i = 0; i < 7; i++) {
+            x.bridge(NONE, i, 3, 0);
+        }
+        x.bridge(1, 0, 3, 0);
+        ask("first all are OFF", x.powerUp(), 8);
+        ask("one that was ON has no number then", x.window(0, 0), -2);
+    }
+
     private static void promise9() {
         BusRanges x = new BusRanges();
         ask("before any POWER-UP", x.refused(0), NONE);
@@ -622,6 +666,16 @@ public final class PromisesTest {
         x.space(1, 16);
         x.start(0);
         ask("no room of KIND 1", x.start(1), -4);
+        x = new BusRanges();
+        for (int i = 0; i < 8; i++) {
+            x.bridge(NONE, i, 3, 0);
+            x.start(i);
+        }
+        x.bridge(7, 0, 0, 0);
+        x.bridge(7, 1, 1, 0);
+        ask("the last but one number", x.start(8), 30);
+        ask("the last number", x.start(9), 31);
+        ask("its RANGE", x.window(9, 1), 31);
     }
 
     private static void promise10Wrong() {
@@ -763,6 +817,64 @@ public final class PromisesTest {
         endpoint(x, NONE, 2, 0, 4);
         ask("a WINDOW stays", x.rebalance(2), -4);
         ask("though there is room of the other KIND", x.gap(NONE, 1), 16);
+    }
+
+    /**
+     * A SPACE of 24. APERTURES of 1 by START: DEVICE 0 at 0, 1; 1 at 2 .. 4; 2 at 5 .. 7; 3 at
+     * 8 .. 10; 4 at 11 .. 13; 5 at 14, 15; 6 at 16 .. 18; then 0, 1 and 5 are stopped. For 8 units
+     * three must move: those of 2, or those of 6.
+     */
+    private static BusRanges three(int slotOf2, int slotOf6) {
+        BusRanges x = new BusRanges();
+        x.space(0, 24);
+        int[] slots = {2, 3, slotOf2, 4, 6, 7, slotOf6};
+        for (int i = 0; i < 7; i++) {
+            x.endpoint(NONE, slots[i]);
+            for (int a = i == 0 || i == 5 ? 1 : 0; a < 3; a++) {
+                x.aperture(i, 0, 0);
+            }
+            x.start(i);
+        }
+        x.stop(0);
+        x.stop(1);
+        x.stop(5);
+        endpoint(x, NONE, 0, 0, 3);
+        return x;
+    }
+
+    private static void promise12Three() {
+        BusRanges x = three(5, 1);
+        ask("START moves none", x.start(7), -4);
+        ask("place() moves none", x.place(7), -2);
+        ask("three must", x.moves(7), 3);
+        ask("three do", x.rebalance(7), 3);
+        Due.are("those of SLOT 1", bases(x, 6), 0, 1, 2);
+        Due.are("not those of SLOT 5", bases(x, 2), 5, 6, 7);
+        Due.are("its own", bases(x, 7), 16);
+        x = three(1, 5);
+        ask("the other way", x.rebalance(7), 3);
+        Due.are("those of SLOT 1 again", bases(x, 2), 14, 15, 19);
+        Due.are("not those of SLOT 5 again", bases(x, 6), 16, 17, 18);
+        x = new BusRanges();
+        x.space(0, 24);
+        endpoint(x, NONE, 2, 0, 2);
+        endpoint(x, NONE, 4, 0, 1);
+        endpoint(x, NONE, 5, 0, 1);
+        endpoint(x, NONE, 1, 0, 2);
+        endpoint(x, NONE, 3, 0, 1);
+        endpoint(x, NONE, 6, 0, 1);
+        endpoint(x, NONE, 7, 0, 0, 0, 0, 0, 0);
+        for (int i = 0; i < 7; i++) {
+            x.start(i);
+        }
+        x.stop(2);
+        x.stop(5);
+        endpoint(x, NONE, 0, 0, 3);
+        ask("SLOTS 1 and 3 ahead of 2 and 4", x.rebalance(7), 2);
+        Due.are("of SLOT 1, the greater", bases(x, 3), 20);
+        Due.are("of SLOT 3", bases(x, 4), 6);
+        Due.are("of SLOT 2", bases(x, 0), 0);
+        Due.are("its own", bases(x, 7), 8);
     }
 
     private static void promise12Kinds() {
@@ -954,6 +1066,22 @@ public final class PromisesTest {
 
     // ---- Where an address goes ----
 
+    /**
+     * After POWER-UP: a chain of which BRIDGE 4 leaves 16 UNITS, ENDPOINT 5 beside that one (4 units
+     * of KIND 0), ENDPOINT 6 on the HOST's BUS (8 units). WINDOWS of 0 .. 3: 32 at 0; of 4: 16 at 0.
+     */
+    private static BusRanges deep() {
+        BusRanges x = new BusRanges();
+        int at = NONE;
+        for (int i = 0; i < 5; i++) {
+            at = x.bridge(at, 0, 0, i == 4 ? 16 : 0);
+        }
+        endpoint(x, 3, 1, 0, 2);
+        endpoint(x, NONE, 1, 0, 3);
+        x.powerUp();
+        return x;
+    }
+
     private static void promise20() {
         BusRanges x = nested();
         ask("by two WINDOWS", x.owner(0, 0), 3);
@@ -974,6 +1102,9 @@ public final class PromisesTest {
         ask("KIND -1", x.owner(-1, 0), NONE);
         x.stop(3);
         ask("of one that is OFF", x.owner(0, 0), NONE);
+        x = deep();
+        ask("by four WINDOWS", x.owner(0, 19), 5);
+        ask("by five, to none", x.owner(0, 0), NONE);
     }
 
     private static void promise21() {
@@ -991,6 +1122,10 @@ public final class PromisesTest {
         ask("KIND -1", x.way(-1, 0), NONE);
         x.stop(0);
         ask("none is there", x.way(0, 0), NONE);
+        x = deep();
+        ask("by four", x.way(0, 16), 4);
+        ask("by five", x.way(0, 15), 5);
+        ask("by four, to none", x.way(0, 20), 4);
     }
 
     private static int[] peer(BusRanges x, int device, int kind, int address) {
@@ -1024,6 +1159,21 @@ public final class PromisesTest {
         x.start(5);
         Due.are("itself OFF, up and down", peer(x, 6, 0, 5), 3, 3, 0);
         Due.are("up and down one", peer(x, 6, 0, 32), 1, 2, 0);
+        x = deep();
+        Due.are("up four", peer(x, 5, 0, 32), 6, 4, 0);
+        Due.are("down four", peer(x, 6, 0, 16), 5, 4, 0);
+        Due.are("down five", peer(x, 6, 0, 3), NONE, 5, 0);
+        Due.are("up four, to none", peer(x, 4, 0, 40), NONE, 4, 0);
+        x = new BusRanges();
+        endpoint(x, NONE, 0, 0, 4);
+        x.start(0);
+        x.bridge(NONE, 1, 0, 16);
+        x.start(1);
+        x.endpoint(1, 0);
+        Due.are("where its WINDOW begins", peer(x, 2, 0, 16), NONE, 0, 1);
+        Due.are("where it ends", peer(x, 2, 0, 31), NONE, 0, 1);
+        Due.are("behind it", peer(x, 2, 0, 32), NONE, 1, 0);
+        Due.are("ahead of it", peer(x, 2, 0, 15), 0, 1, 0);
     }
 
     // ---- What would be ----
@@ -1160,6 +1310,10 @@ public final class PromisesTest {
         ask("none", x.hops(0, 7), NONE);
         ask("-1", x.hops(-1, 0), NONE);
         ask("20", x.hops(0, 20), NONE);
+        x = deep();
+        x.endpoint(0, 7);
+        ask("to the first BUS behind", x.hops(5, 7), 3);
+        ask("to the HOST's", x.hops(6, 5), 4);
     }
 
     private static void promise28() {
@@ -1178,6 +1332,12 @@ public final class PromisesTest {
         ask("none", x.common(0, 6), -2);
         ask("-1", x.common(-1, 0), -2);
         ask("20", x.common(0, 20), -2);
+        x = deep();
+        x.endpoint(0, 7);
+        ask("the first BUS behind", x.common(5, 7), 0);
+        ask("the last BUS", x.common(5, 4), 3);
+        ask("the last BUS, the other way", x.common(4, 5), 3);
+        ask("nothing but the HOST's", x.common(5, 6), NONE);
     }
 
     private static void promise29() {
@@ -1317,6 +1477,18 @@ public final class PromisesTest {
         x.stop(0);
         ask("BRIDGES that are OFF are none", x.place(11), -2);
         promise34Depth();
+        x = new BusRanges();
+        x.space(0, 16);
+        x.bridge(NONE, 7, 0, 16);
+        x.start(0);
+        endpoint(x, NONE, 6, 0, 3);
+        ask("the first by the WALK", x.place(1), 0);
+        for (int slot = 1; slot < 8; slot++) {
+            x.endpoint(0, slot);
+        }
+        ask("SLOT 0 alone is free", x.place(1), 0);
+        x.endpoint(0, 0);
+        ask("none is free", x.place(1), -2);
     }
 
     /** BRIDGE 4 has a WINDOW, but an ENDPOINT behind it would be behind five. */
@@ -1380,11 +1552,27 @@ public final class PromisesTest {
         ask("too much", x.would(3), 1);
         ask("one that is ON would be OFF", x.would(2), 1);
         ask("all others", x.would(0), 6);
+        ask("who would be OFF does not count", x.would(1), 2);
         ask("what 4", x.would(4), NONE);
         ask("what -1", x.would(-1), NONE);
         ask("nothing is done", x.about(6), acts + 2);
         ask("nothing moves", x.bar(5, 0, 2), 128);
         ask("none is REFUSED", x.about(5), 0);
+        x = new BusRanges();
+        x.space(0, 8);
+        endpoint(x, NONE, 1, 0, 2);
+        endpoint(x, NONE, 0, 0, 2);
+        x.start(0);
+        x.start(1);
+        ask("both change places", x.would(1), 2);
+        x = new BusRanges();
+        x.space(0, 4);
+        endpoint(x, NONE, 0, 0, 2);
+        endpoint(x, NONE, 1, 0, 2);
+        x.start(0);
+        ask("one is ON, the other would be", x.would(0), 1);
+        ask("one would be OFF", x.would(2), 1);
+        ask("none elsewhere then", x.would(1), 0);
     }
 
     private static void promise37() {
