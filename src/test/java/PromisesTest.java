@@ -33,6 +33,7 @@ public final class PromisesTest {
         promise12();
         promise12Rows();
         promise12Three();
+        promise12Apart();
         promise12Kinds();
         promise12Wrong();
         promise13();
@@ -205,6 +206,8 @@ public final class PromisesTest {
             ask("one of 20", x.endpoint(i / 8, i % 8), 3 + i);
         }
         ask("one more than 20", x.endpoint(NONE, 7), NONE);
+        x.undo();
+        ask("that was no ACT", x.about(0), 19);
     }
 
     private static void promise3() {
@@ -232,6 +235,8 @@ public final class PromisesTest {
             ask("one of 20", x.bridge(i < 8 ? NONE : i % 8, i < 8 ? i : i / 8, 0, 0), i);
         }
         ask("one more than 20", x.bridge(7, 7, 0, 0), NONE);
+        x.undo();
+        ask("that was no ACT", x.about(0), 19);
     }
 
     private static void promise4() {
@@ -326,6 +331,14 @@ public final class PromisesTest {
         low.shift(0, 1, 0);
         ask("DEVICE 0 would be behind five", low.shift(1, 5, 1), false);
         ask("DEVICE 0 behind four", low.shift(1, 4, 1), true);
+        x = new BusRanges();
+        for (int i = 0; i < 6; i++) {
+            x.bridge(i % 3 == 0 ? NONE : i - 1, i / 3, 0, 0);
+        }
+        endpoint(x, 2, 0);
+        ask("an ENDPOINT behind four", chain().shift(4, 3, 5), true);
+        ask("one behind two, to be behind three", x.shift(2, 5, 0), true);
+        ask("what is behind it is behind four", x.device(6, 1), 2);
     }
 
     private static void promise7() {
@@ -423,6 +436,16 @@ public final class PromisesTest {
         ask("like ones by SLOT, first", x.bar(1, 0, 2), 0);
         ask("like ones by SLOT, second", x.window(0, 2), 16);
         ask("like ones by SLOT, third", x.bar(2, 0, 2), 32);
+        x = new BusRanges();
+        x.space(1, 1024);
+        x.bridge(NONE, 0, 0, 0);
+        endpoint(x, 0, 0, 1, 6, 1, 0);
+        x.bridge(NONE, 1, 0, 80);
+        endpoint(x, NONE, 2, 1, 6);
+        x.powerUp();
+        Due.are("KIND 1: of ALIGN 64 the greater", window(x, 0), 1, 1, NONE, 0, 0, 80);
+        ask("KIND 1: the other of ALIGN 64", x.bar(3, 0, 2), 128);
+        ask("KIND 1: of ALIGN 16, though as great", x.window(2, 4), 192);
     }
 
     private static void promise8Nested() {
@@ -722,6 +745,8 @@ public final class PromisesTest {
         x.stop(0);
         x.stop(2);
         endpoint(x, NONE, 4, 0, 3);
+        ask("START moves none", x.start(4), -4);
+        ask("place() moves none", x.place(4), -2);
         ask("one moves", x.rebalance(4), 1);
         Due.are("of like rows the first", bases(x, 1), 8);
         Due.are("the ENDPOINT is ON", bases(x, 4), 0);
@@ -822,12 +847,12 @@ public final class PromisesTest {
     /**
      * A SPACE of 24. APERTURES of 1 by START: DEVICE 0 at 0, 1; 1 at 2 .. 4; 2 at 5 .. 7; 3 at
      * 8 .. 10; 4 at 11 .. 13; 5 at 14, 15; 6 at 16 .. 18; then 0, 1 and 5 are stopped. For 8 units
-     * three must move: those of 2, or those of 6.
+     * three must move: those of 2, or those of 6; not those of 3, which are in SLOT 1.
      */
     private static BusRanges three(int slotOf2, int slotOf6) {
         BusRanges x = new BusRanges();
         x.space(0, 24);
-        int[] slots = {2, 3, slotOf2, 4, 6, 7, slotOf6};
+        int[] slots = {2, 3, slotOf2, 1, 6, 7, slotOf6};
         for (int i = 0; i < 7; i++) {
             x.endpoint(NONE, slots[i]);
             for (int a = i == 0 || i == 5 ? 1 : 0; a < 3; a++) {
@@ -843,17 +868,17 @@ public final class PromisesTest {
     }
 
     private static void promise12Three() {
-        BusRanges x = three(5, 1);
+        BusRanges x = three(5, 4);
         ask("START moves none", x.start(7), -4);
         ask("place() moves none", x.place(7), -2);
         ask("three must", x.moves(7), 3);
         ask("three do", x.rebalance(7), 3);
-        Due.are("those of SLOT 1", bases(x, 6), 0, 1, 2);
+        Due.are("those of SLOT 4", bases(x, 6), 0, 1, 2);
         Due.are("not those of SLOT 5", bases(x, 2), 5, 6, 7);
         Due.are("its own", bases(x, 7), 16);
-        x = three(1, 5);
+        x = three(4, 5);
         ask("the other way", x.rebalance(7), 3);
-        Due.are("those of SLOT 1 again", bases(x, 2), 14, 15, 19);
+        Due.are("those of SLOT 4 again", bases(x, 2), 14, 15, 19);
         Due.are("not those of SLOT 5 again", bases(x, 6), 16, 17, 18);
         x = new BusRanges();
         x.space(0, 24);
@@ -875,6 +900,35 @@ public final class PromisesTest {
         Due.are("of SLOT 3", bases(x, 4), 6);
         Due.are("of SLOT 2", bases(x, 0), 0);
         Due.are("its own", bases(x, 7), 8);
+    }
+
+    /**
+     * A SPACE of 24. SLOT 1 has 0 .. 2, 3 has 3 .. 5, 5 has 4 units at 8, 2 at 12, 1 at 14, and SLOTS
+     * 2, 4 and 6 have one each at 16 .. 18; what was at 6, 7 and 15 is gone.
+     */
+    private static void promise12Apart() {
+        BusRanges x = new BusRanges();
+        x.space(0, 24);
+        endpoint(x, NONE, 1, 0, 0, 0, 0, 0, 0);
+        endpoint(x, NONE, 3, 0, 0, 0, 0, 0, 0);
+        endpoint(x, NONE, 7, 0, 1);
+        endpoint(x, NONE, 5, 0, 2, 0, 1, 0, 0);
+        for (int i = 0; i < 4; i++) {
+            x.start(i);
+        }
+        endpoint(x, NONE, 0, 0, 0);
+        x.start(4);
+        for (int slot = 2; slot < 7; slot += 2) {
+            x.start(endpoint(x, NONE, slot, 0, 0));
+        }
+        x.stop(2);
+        x.unplug(4);
+        endpoint(x, NONE, 0, 0, 3);
+        ask("three of as many SLOTS, ahead of those of SLOT 5", x.rebalance(4), 3);
+        Due.are("SLOT 2", bases(x, 5), 6);
+        Due.are("SLOT 4", bases(x, 6), 7);
+        Due.are("SLOT 6", bases(x, 7), 15);
+        Due.are("SLOT 5 stays", bases(x, 3), 8, 12, 14);
     }
 
     private static void promise12Kinds() {
@@ -1235,6 +1289,11 @@ public final class PromisesTest {
         ask("which is ON", x.blame(1), NONE);
         x.space(0, 8);
         ask("but itself", x.blame(0), NONE);
+        x = new BusRanges();
+        x.space(0, 16);
+        x.bridge(NONE, 0, 0, 16);
+        endpoint(x, NONE, 1, 0, 4);
+        ask("a BRIDGE is not to blame", x.blame(1), NONE);
     }
 
     /**
@@ -1479,7 +1538,8 @@ public final class PromisesTest {
         promise34Depth();
         x = new BusRanges();
         x.space(0, 16);
-        x.bridge(NONE, 7, 0, 16);
+        x.bridge(NONE, 0, 0, 16);
+        ask("a BRIDGE that is OFF", x.place(0), -2);
         x.start(0);
         endpoint(x, NONE, 6, 0, 3);
         ask("the first by the WALK", x.place(1), 0);
@@ -1596,6 +1656,12 @@ public final class PromisesTest {
         ask("what -1", x.units(0, -1), NONE);
         ask("KIND 2", x.units(2, 0), NONE);
         ask("KIND -1", x.units(-1, 0), NONE);
+        x = new BusRanges();
+        endpoint(x, NONE, 0, 0, 3);
+        ask("of DEVICE 0, OFF", x.units(0, 3), 8);
+        x.start(0);
+        ask("of DEVICE 0, ON", x.units(0, 0), 8);
+        ask("its APERTURES, too", x.about(3), 1);
     }
 
     private static void promise38() {
@@ -1673,6 +1739,8 @@ public final class PromisesTest {
         for (int i = 0; i < 20; i++) {
             ask("all 20", x.redo(), true);
             ask("one by one", x.about(9), 5 + i);
+            ask("which can be taken back", x.about(6), 1 + i);
+            ask("those that are left", x.about(7), 19 - i);
         }
         ask("and no more", x.redo(), false);
     }
