@@ -4,15 +4,25 @@ import java.util.Arrays;
 final class Due {
     private static int wrong = 0;
     private static int calls = 0;
+    private static String place = "";
 
     private Due() {
+    }
+
+    /** What is told ahead of all that is wrong from now on. */
+    static void within(String told) {
+        place = told;
+    }
+
+    static int calls() {
+        return calls;
     }
 
     static void is(String what, long got, long want) {
         calls++;
         if (got != want) {
             wrong++;
-            System.out.println(what + ": answered " + got + ", due is " + want);
+            System.out.println(place + what + ": answered " + got + ", due is " + want);
         }
     }
 
@@ -25,7 +35,8 @@ final class Due {
         calls++;
         if (!Arrays.equals(got, want)) {
             wrong++;
-            System.out.println(what + ": answered " + Arrays.toString(got) + ", due is " + Arrays.toString(want));
+            System.out.println(place + what + ": answered " + Arrays.toString(got)
+                    + ", due is " + Arrays.toString(want));
         }
     }
 

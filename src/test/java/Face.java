@@ -13,7 +13,15 @@ final class Face {
         "common 2", "need 2", "align 2", "gap 2", "room 2", "spare 1", "place 1", "greediest 1", "would 1",
         "units 2", "law 1", "undo 0", "redo 0", "image 1", "back 1", "about 1"};
 
+    private static final List<String> CHANGING = List.of("endpoint", "bridge", "aperture", "unplug", "shift",
+            "space", "powerUp", "start", "stop", "rebalance", "undo", "redo", "image", "back");
+
     private Face() {
+    }
+
+    /** Something that answers the calls of the face. */
+    interface Asked {
+        int ask(int call, int... arguments) throws Exception;
     }
 
     static String name(int call) {
@@ -31,6 +39,11 @@ final class Face {
             }
         }
         throw new IllegalArgumentException(name);
+    }
+
+    /** Whether a call may do something (what is kept in a BOX is something, too). */
+    static boolean changes(int call) {
+        return CHANGING.contains(name(call));
     }
 
     /** All calls of a class, in the order of CALLS. */
@@ -53,60 +66,63 @@ final class Face {
         return answer instanceof Boolean ? ((Boolean) answer ? 1 : 0) : (Integer) answer;
     }
 
+    private static int ask(Asked on, String name, int... arguments) throws Exception {
+        return on.ask(indexOf(name), arguments);
+    }
+
     /** All that is told of what there is (nothing is done). */
-    static List<Integer> all(Method[] methods, Object on) throws Exception {
+    static List<Integer> all(Asked on) throws Exception {
         List<Integer> seen = new ArrayList<>();
         for (int what = 0; what < 10; what++) {
-            seen.add(call(methods[indexOf("about")], on, what));
+            seen.add(ask(on, "about", what));
         }
         for (int i = 0; i < 20; i++) {
-            seen.add(call(methods[indexOf("walk")], on, i));
-            seen.add(call(methods[indexOf("refused")], on, i));
+            seen.add(ask(on, "walk", i));
+            seen.add(ask(on, "refused", i));
             for (int what = 0; what < 7; what++) {
-                seen.add(call(methods[indexOf("device")], on, i, what));
-                seen.add(call(methods[indexOf("window")], on, i, what));
+                seen.add(ask(on, "device", i, what));
+                seen.add(ask(on, "window", i, what));
             }
             for (int a = 0; a < 3; a++) {
                 for (int what = 0; what < 3; what++) {
-                    seen.add(call(methods[indexOf("bar")], on, i, a, what));
+                    seen.add(ask(on, "bar", i, a, what));
                 }
             }
         }
         return seen;
     }
 
-    /** All that can be worked out of what there is (nothing is done). */
-    static List<Integer> more(Method[] methods, Object on) throws Exception {
+    /** Much of what can be worked out of what there is (nothing is done). */
+    static List<Integer> more(Asked on) throws Exception {
         List<Integer> seen = new ArrayList<>();
         for (int i = -1; i <= 20; i++) {
             for (String name : new String[] {"bus", "spare", "place", "blame", "would", "moves", "greediest", "law"}) {
-                seen.add(call(methods[indexOf(name)], on, i));
+                seen.add(ask(on, name, i));
             }
             for (int k = -1; k <= 2; k++) {
-                for (String name : new String[] {"need", "align", "gap", "room"}) {
-                    seen.add(call(methods[indexOf(name)], on, i, k));
+                for (String name : new String[] {"need", "align", "gap", "room", "wire"}) {
+                    seen.add(ask(on, name, i, k));
                 }
-                seen.add(call(methods[indexOf("wire")], on, i, k));
-                seen.add(call(methods[indexOf("fill")], on, i, k, Math.floorMod(i + k, 9)));
+                seen.add(ask(on, "fill", i, k, Math.floorMod(i + k, 9)));
             }
             for (int j = -1; j <= 20; j++) {
-                seen.add(call(methods[indexOf("hops")], on, i, j));
-                seen.add(call(methods[indexOf("common")], on, i, j));
-                seen.add(call(methods[indexOf("find")], on, i, j));
+                seen.add(ask(on, "hops", i, j));
+                seen.add(ask(on, "common", i, j));
+                seen.add(ask(on, "find", i, j));
             }
             for (int address = -1; address < 300; address += 1 + Math.abs(i)) {
-                seen.add(call(methods[indexOf("peer")], on, i, address & 1, address, 0));
-                seen.add(call(methods[indexOf("peer")], on, i, address >> 1 & 1, address, 1));
-                seen.add(call(methods[indexOf("peer")], on, i, address >> 2 & 1, address, 2));
+                for (int what = 0; what < 3; what++) {
+                    seen.add(ask(on, "peer", i, address >> what & 1, address, what));
+                }
             }
         }
         for (int address = -2; address < 1030; address++) {
-            seen.add(call(methods[indexOf("owner")], on, address & 1, address));
-            seen.add(call(methods[indexOf("way")], on, address & 1, address));
+            seen.add(ask(on, "owner", address & 1, address));
+            seen.add(ask(on, "way", address & 1, address));
         }
         for (int i = 0; i < 30; i++) {
-            seen.add(call(methods[indexOf("chance")], on, i * 37 % 1000, i * 17 % 101, i % 3));
-            seen.add(call(methods[indexOf("units")], on, i % 2, i % 4));
+            seen.add(ask(on, "chance", i * 37 % 1000, i * 17 % 101, i % 3));
+            seen.add(ask(on, "units", i % 2, i % 4));
         }
         return seen;
     }

@@ -2,7 +2,10 @@ import java.lang.reflect.Method;
 import java.util.Arrays;
 import java.util.Random;
 
-/** Random runs, the same for BusRanges and for the Model: every answer must be the same. */
+/**
+ * Random runs, the same for BusRanges and for the Model: every answer must be the same. What is called
+ * is chosen by what the Model has, so that no object is asked beyond its 512 calls.
+ */
 public final class ModelTest {
     private static final int[] ODD = {Integer.MIN_VALUE, -1000, -3, -2, -1, 20, 21, 32, 100, 1025, 1 << 20, Integer.MAX_VALUE};
 
@@ -10,6 +13,8 @@ public final class ModelTest {
     private final Method[] mine;
     private final Method[] models;
     private BusRanges object;
+    private int left;
+    private Replay replay;
     private Model model;
     private StringBuilder told;
     private boolean small;
@@ -46,7 +51,7 @@ public final class ModelTest {
         if (!crowded && style > 1 && !both("space", random.nextInt(2), 8 << random.nextInt(5))) {
             return false;
         }
-        for (int i = 0; i < 400; i++) {
+        for (int i = 0; left > 4; i++) {
             boolean right;
             if (crowded && random.nextInt(2) == 0) {
                 right = squeeze();
@@ -56,29 +61,35 @@ public final class ModelTest {
             if (!right) {
                 return false;
             }
-            if (i % 16 == 0 && !same() || i % 128 == 64 && !alsoSame()) {
+            if (i % 32 == 31 && !same() || i % 128 == 64 && !alsoSame()) {
                 return false;
             }
         }
-        return true;
+        return same();
     }
 
     private boolean alsoSame() throws Exception {
-        boolean same = Face.more(mine, object).equals(Face.more(models, model));
+        boolean same = Face.more(replay).equals(Face.more(this::askModel));
         if (!same) {
             Due.is(told + " all that can be worked out", 0, 1);
         }
         return same;
     }
 
-    private void renew(String name) {
+    private int askModel(int call, int... arguments) throws Exception {
+        return Face.call(models[call], model, arguments);
+    }
+
+    private void renew(String name) throws Exception {
         object = new BusRanges();
+        left = Replay.MOST_CALLS;
+        replay = new Replay();
         model = new Model();
         told = new StringBuilder(name);
     }
 
     private boolean same() throws Exception {
-        boolean same = Face.all(mine, object).equals(Face.all(models, model));
+        boolean same = Face.all(replay).equals(Face.all(this::askModel));
         if (!same) {
             Due.is(told + " all that there is", 0, 1);
         }
@@ -94,16 +105,16 @@ public final class ModelTest {
             right = right && both("bridge", BusRanges.NONE, 0, 2, size) && both("start", 0);
         }
         if (right && random.nextInt(4) == 0) {
-            right = both("bridge", at, random.nextInt(8), 0, 16) && both("start", object.about(0) - 1);
+            right = both("bridge", at, random.nextInt(8), 0, 16) && both("start", model.about(0) - 1);
         }
-        int first = object.about(0);
+        int first = model.about(0);
         int own = random.nextInt(8);
         for (int slot = 0; slot < 8 && right; slot++) {
             if (slot != own) {
                 right = both("endpoint", at, slot) && crowdOne();
             }
         }
-        int count = object.about(0) - first;
+        int count = model.about(0) - first;
         for (int i = 0; i < 4 * count && right; i++) {
             right = both("start", first + random.nextInt(count));
         }
@@ -113,11 +124,11 @@ public final class ModelTest {
         for (int i = random.nextInt(3); i > 0 && right; i--) {
             right = both("start", first + random.nextInt(count));
         }
-        return right && (object.find(at + 1, own) != BusRanges.NONE || squeezeIn(at, own));
+        return right && (model.find(at + 1, own) != BusRanges.NONE || squeezeIn(at, own));
     }
 
     private boolean crowdOne() throws Exception {
-        int device = object.about(0) - 1;
+        int device = model.about(0) - 1;
         boolean right = true;
         for (int a = random.nextInt(3); a >= 0 && right; a--) {
             right = both("aperture", device, random.nextInt(5) / 4, random.nextInt(5) / 2);
@@ -128,8 +139,8 @@ public final class ModelTest {
     /** An ENDPOINT with about as much as all gaps have. */
     private boolean squeezeIn(int at, int slot) throws Exception {
         boolean right = both("endpoint", at, slot);
-        int device = object.about(0) - 1;
-        int gap = object.gap(at, 0);
+        int device = model.about(0) - 1;
+        int gap = model.gap(at, 0);
         for (int a = 0; a < 3 && right; a++) {
             int e = Math.max(0, 31 - Integer.numberOfLeadingZeros(Math.max(1, gap)) - random.nextInt(2));
             right = both("aperture", device, 0, Math.min(e, 8));
@@ -139,7 +150,7 @@ public final class ModelTest {
             }
         }
         right = right && both("moves", device) && both("place", device) && both("start", device);
-        if (right && object.device(device, 3) == 1) {
+        if (right && model.device(device, 3) == 1) {
             right = both("stop", device);
         }
         return right && both("rebalance", device) && same();
@@ -157,7 +168,7 @@ public final class ModelTest {
             case 3:
                 return both("rebalance", device);
             case 4:
-                return object.device(device, 0) != 0 || both("unplug", device)
+                return model.device(device, 0) != 0 || both("unplug", device)
                         && both("endpoint", bus(), slot()) && both("aperture", device, 0, 2 + random.nextInt(3));
             default:
                 return both("moves", device);
@@ -274,15 +285,15 @@ public final class ModelTest {
         if (dice == 0) {
             return random.nextInt(22) - 1;
         }
-        int count = object.about(0);
-        return count == 0 ? 0 : object.walk(random.nextInt(count));
+        int count = model.about(0);
+        return count == 0 ? 0 : model.walk(random.nextInt(count));
     }
 
     /** Mostly a BUS that is there. */
     private int bus() {
         for (int i = 0; i < 6; i++) {
             int device = device();
-            if (object.device(device, 0) == 1) {
+            if (model.device(device, 0) == 1) {
                 return random.nextInt(5) == 0 ? BusRanges.NONE : device;
             }
         }
@@ -311,6 +322,10 @@ public final class ModelTest {
         told.append(' ').append(text);
         int want = Face.call(models[call], model, arguments);
         int got = Face.call(mine[call], object, arguments);
+        left--;
+        if (Face.changes(call)) {
+            replay.add(call, arguments);
+        }
         if (got == want) {
             Due.is(text, got, want);
             return true;

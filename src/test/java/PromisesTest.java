@@ -2,11 +2,7 @@
  * Promise by promise: ordinary inputs, the edges that the document names, wrong inputs.
  * What is due is worked out by hand from the document.
  */
-public final class PromisesTest {
-    private static final int NONE = -1;
-    private static final int LEAST = Integer.MIN_VALUE;
-    private static final int MOST = Integer.MAX_VALUE;
-
+public final class PromisesTest extends Trees {
     private PromisesTest() {
     }
 
@@ -68,93 +64,6 @@ public final class PromisesTest {
         promise42();
         promise43();
         Due.end();
-    }
-
-    // ---- What the tests share ----
-
-    private static void ask(String what, long got, long want) {
-        Due.is(what, got, want);
-    }
-
-    private static void ask(String what, boolean got, boolean want) {
-        Due.is(what, got, want);
-    }
-
-    /** An ENDPOINT with APERTURES, told as kind and e by turns. */
-    private static int endpoint(BusRanges x, int at, int slot, int... apertures) {
-        int device = x.endpoint(at, slot);
-        for (int i = 0; i < apertures.length; i += 2) {
-            x.aperture(device, apertures[i], apertures[i + 1]);
-        }
-        return device;
-    }
-
-    private static int[] about(BusRanges x) {
-        int[] seen = new int[10];
-        for (int what = 0; what < seen.length; what++) {
-            seen[what] = x.about(what);
-        }
-        return seen;
-    }
-
-    private static int[] window(BusRanges x, int bridge) {
-        int[] seen = new int[6];
-        for (int what = 0; what < seen.length; what++) {
-            seen[what] = x.window(bridge, what);
-        }
-        return seen;
-    }
-
-    private static int[] walk(BusRanges x) {
-        int[] seen = new int[x.about(0)];
-        for (int i = 0; i < seen.length; i++) {
-            seen[i] = x.walk(i);
-        }
-        return seen;
-    }
-
-    private static int[] bases(BusRanges x, int device) {
-        int[] seen = new int[x.device(device, 4)];
-        for (int a = 0; a < seen.length; a++) {
-            seen[a] = x.bar(device, a, 2);
-        }
-        return seen;
-    }
-
-    private static int[] refused(BusRanges x) {
-        int[] seen = new int[x.about(5)];
-        for (int i = 0; i < seen.length; i++) {
-            seen[i] = x.refused(i);
-        }
-        return seen;
-    }
-
-    /** Five BRIDGES 0 .. 4, each behind the one before it, on SLOT 0. */
-    private static BusRanges chain() {
-        BusRanges x = new BusRanges();
-        int at = NONE;
-        for (int i = 0; i < 5; i++) {
-            at = x.bridge(at, 0, 0, 0);
-        }
-        return x;
-    }
-
-    /**
-     * After POWER-UP: BRIDGE 0 (SLOT 2, 16 UNITS), behind it ENDPOINT 1 (SLOT 1: KIND 0 of 8) and
-     * BRIDGE 2 (SLOT 3), behind that ENDPOINT 3 (SLOT 0: KIND 0 of 32, KIND 1 of 4);
-     * on the HOST's BUS ENDPOINT 4 (SLOT 5: KIND 0 of 4, KIND 1 of 64).
-     * KIND 0: WINDOW of 2: 32 at 0; of 0: 32 + 8 + 16 = 56, so 64, at 0; APERTURE of 4 at 64.
-     * KIND 1: WINDOW of 2: 16; of 0: 32; APERTURE of 4 at 0, WINDOW of 0 at 64.
-     */
-    private static BusRanges nested() {
-        BusRanges x = new BusRanges();
-        x.bridge(NONE, 2, 0, 16);
-        endpoint(x, 0, 1, 0, 3);
-        x.bridge(0, 3, 0, 0);
-        endpoint(x, 2, 0, 0, 5, 1, 2);
-        endpoint(x, NONE, 5, 0, 2, 1, 6);
-        x.powerUp();
-        return x;
     }
 
     // ---- ACTS ----
@@ -1119,22 +1028,6 @@ public final class PromisesTest {
     }
 
     // ---- Where an address goes ----
-
-    /**
-     * After POWER-UP: a chain of which BRIDGE 4 leaves 16 UNITS, ENDPOINT 5 beside that one (4 units
-     * of KIND 0), ENDPOINT 6 on the HOST's BUS (8 units). WINDOWS of 0 .. 3: 32 at 0; of 4: 16 at 0.
-     */
-    private static BusRanges deep() {
-        BusRanges x = new BusRanges();
-        int at = NONE;
-        for (int i = 0; i < 5; i++) {
-            at = x.bridge(at, 0, 0, i == 4 ? 16 : 0);
-        }
-        endpoint(x, 3, 1, 0, 2);
-        endpoint(x, NONE, 1, 0, 3);
-        x.powerUp();
-        return x;
-    }
 
     private static void promise20() {
         BusRanges x = nested();

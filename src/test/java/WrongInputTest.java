@@ -1,23 +1,29 @@
 import java.lang.reflect.Method;
 import java.util.Arrays;
-import java.util.List;
 
-/** No call throws for any arguments, and an ACT that is refused does nothing. */
-public final class WrongInputTest {
-    private static final int[] MANY = {Integer.MIN_VALUE, -1000, -3, -2, -1, 0, 1, 2, 3, 4, 7, 8, 9, 19, 20, 21,
-        31, 32, 128, 129, 999, 1024, 1025, 1 << 30, Integer.MAX_VALUE};
-    private static final int[] FEW = {Integer.MIN_VALUE, -2, -1, 0, 1, 2, 4, 8, 20, Integer.MAX_VALUE};
-    private static final List<String> ACTS = List.of("endpoint", "bridge", "aperture", "unplug", "shift",
-            "space", "powerUp", "start", "stop", "rebalance", "undo", "redo", "back");
+/** No call throws for any arguments, and what is refused or only asks does nothing. */
+public final class WrongInputTest extends Trees {
+    private static final int[] MANY = {LEAST, -1000, -3, -2, -1, 0, 1, 2, 3, 4, 7, 8, 9, 19, 20, 21,
+        31, 32, 128, 129, 999, 1024, 1025, 1 << 30, MOST};
+    private static final int[] FEW = {LEAST, -2, -1, 0, 1, 2, 4, 8, 20, MOST};
+    private static final int STATES = 4;
+    // So many calls on one object leave it enough to be made and asked for all of it twice.
+    private static final int MOST_CALLS = 100;
 
-    private WrongInputTest() {
+    private final Method[] methods;
+    private BusRanges object;
+    private String before;
+    private int calls;
+
+    private WrongInputTest() throws Exception {
+        methods = Face.methods(BusRanges.class);
     }
 
     public static void main(String[] args) throws Exception {
-        Method[] methods = Face.methods(BusRanges.class);
-        for (int state = 0; state < 4; state++) {
-            for (int call = 0; call < methods.length; call++) {
-                go(methods, call, state);
+        WrongInputTest test = new WrongInputTest();
+        for (int state = 0; state < STATES; state++) {
+            for (int call = 0; call < test.methods.length; call++) {
+                test.go(call, state);
             }
         }
         Due.end();
@@ -28,11 +34,11 @@ public final class WrongInputTest {
         if (state == 0) {
             return x;
         }
-        int at = BusRanges.NONE;
+        int at = NONE;
         for (int i = 0; i < 5; i++) {
             at = x.bridge(at, 2 * i % 8, i % 4, 32 * (i % 5));
             int device = x.endpoint(i - 1, 7);
-            if (device != BusRanges.NONE) {
+            if (device != NONE) {
                 x.aperture(device, i % 2, i);
                 x.aperture(device, 0, 0);
             }
@@ -43,45 +49,57 @@ public final class WrongInputTest {
         }
         if (state == 3) {
             x.stop(1);
-            x.endpoint(BusRanges.NONE, 3);
+            x.endpoint(NONE, 3);
             x.undo();
             x.image(0);
         }
         return x;
     }
 
-    private static void go(Method[] methods, int call, int state) throws Exception {
+    private void renew(int state) {
+        object = make(state);
+        before = told(object);
+        calls = 0;
+    }
+
+    /** One call with all rows of arguments. */
+    private void go(int call, int state) throws Exception {
         int count = Face.arguments(call);
         int[] values = count > 2 ? FEW : MANY;
-        BusRanges x = make(state);
-        List<Integer> before = Face.all(methods, x);
-        boolean act = ACTS.contains(Face.name(call));
-        int all = 1;
+        int rows = 1;
         for (int i = 0; i < count; i++) {
-            all *= values.length;
+            rows *= values.length;
         }
-        for (int n = 0; n < all; n++) {
+        renew(state);
+        for (int n = 0; n < rows; n++) {
             int[] arguments = new int[count];
             int rest = n;
             for (int i = 0; i < count; i++) {
                 arguments[i] = values[rest % values.length];
                 rest /= values.length;
             }
-            String text = "state " + state + ": " + Face.name(call) + Arrays.toString(arguments);
-            boolean changed = true;
-            try {
-                int answer = Face.call(methods[call], x, arguments);
-                boolean refused = methods[call].getReturnType() == boolean.class ? answer == 0 : answer < 0;
-                changed = act && !refused;
-            } catch (Exception e) {
-                Due.is(text + " threw " + e.getCause(), 1, 0);
-            }
-            if (changed) {
-                x = make(state);
-            } else if (n % 32 == 0 || all < 100) {
-                Due.is(text + " changed something", Face.all(methods, x).equals(before), true);
+            boolean done = callOnce(call, "state " + state + ": " + Face.name(call) + Arrays.toString(arguments), arguments);
+            if (done) {
+                renew(state);
+            } else if (calls == MOST_CALLS || n == rows - 1) {
+                Due.is(Face.name(call) + ", among others " + Arrays.toString(arguments) + ", changed something",
+                        told(object).equals(before), true);
+                renew(state);
             }
         }
-        Due.is(Face.name(call) + " changed something", Face.all(methods, x).equals(before), true);
+    }
+
+    /** Whether something was done. */
+    private boolean callOnce(int call, String text, int... arguments) {
+        calls++;
+        try {
+            int answer = Face.call(methods[call], object, arguments);
+            boolean refused = methods[call].getReturnType() == boolean.class ? answer == 0 : answer < 0;
+            Due.is(text, 0, 0);
+            return Face.changes(call) && !refused;
+        } catch (Exception e) {
+            Due.is(text + " threw " + e.getCause(), 1, 0);
+            return true;
+        }
     }
 }
