@@ -620,7 +620,7 @@ final class BoundaryOfAnswers extends Trees {
      * 30: a DRAW of 30; 137 * 30 + 71 = 4,181, so 181: 81; 137 * 181 + 71 = 24,868, so 868: 68.
      */
     private static BusRanges threeDraws() {
-        BusRanges x = withSpace(8);
+        BusRanges x = withSpace(4);
         endpoint(x, NONE, 7, 0, 2);
         x.bridge(NONE, 2, 0, 0);
         endpoint(x, NONE, 0, 0, 3);
@@ -1060,6 +1060,15 @@ final class BoundaryOfAnswers extends Trees {
         x.stop(2);
         x.start(0);
         ask("ON", x.place(1), 0);
+        x = new BusRanges();
+        x.bridge(NONE, 0, 0, 0);
+        x.endpoint(0, 0);
+        for (int slot = 1; slot < 8; slot++) {
+            x.endpoint(NONE, slot);
+        }
+        ask("one without APERTURES behind an OFF BRIDGE", x.place(1), -2);
+        x.start(0);
+        ask("behind an ON one", x.place(1), 0);
     }
 
     @Sentence(in = "Promise 34", says = "and has a SLOT free where it could be plugged in (or is its own);")

@@ -1195,7 +1195,7 @@ public final class PromisesTest extends Trees {
      */
     private static void promise25() {
         BusRanges x = new BusRanges();
-        x.space(0, 8);
+        x.space(0, 4);
         endpoint(x, NONE, 7, 0, 2);
         x.bridge(NONE, 2, 0, 0);
         endpoint(x, NONE, 0, 0, 3);
