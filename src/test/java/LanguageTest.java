@@ -54,12 +54,17 @@ public final class LanguageTest {
         }
     }
 
+    private static final Set<String> BOOLEANS = Set.of("shift", "space", "undo", "redo");
+
     private static void face() {
         Set<String> want = new TreeSet<>(Arrays.asList(Face.CALLS));
         Set<String> got = new TreeSet<>();
         for (Method m : BusRanges.class.getDeclaredMethods()) {
             if (Modifier.isPublic(m.getModifiers())) {
                 got.add(m.getName() + " " + m.getParameterCount());
+                Class<?> due = BOOLEANS.contains(m.getName()) ? boolean.class : int.class;
+                Due.is("the face: " + m, m.getReturnType() == due, true);
+                Due.is("the face: " + m, Arrays.stream(m.getParameterTypes()).allMatch(t -> t == int.class), true);
             } else {
                 Due.is("rule 1, private: " + m, Modifier.isPrivate(m.getModifiers()), true);
             }

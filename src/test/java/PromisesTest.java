@@ -63,6 +63,7 @@ public final class PromisesTest extends Trees {
         promise41();
         promise42();
         promise43();
+        lastCall();
         Due.end();
     }
 
@@ -1717,5 +1718,18 @@ public final class PromisesTest extends Trees {
         x.powerUp();
         Due.are("REFUSED: of KIND 0 3, 1, 4, then the BRIDGE", refused(x), 3, 1, 4, 0);
         Due.are("none is ON", about(x), 5, 2, 0, 0, 0, 4, 18, 0, 0, 20);
+    }
+
+    /** An object is used for at most 512 calls: the last ones are answered as the first ones. */
+    private static void lastCall() {
+        BusRanges x = new BusRanges();
+        for (int i = 1; i <= 254; i++) {
+            ask("call " + (2 * i - 1), x.space(i % 2, i), true);
+            ask("call " + 2 * i, x.about(8 + i % 2), i);
+        }
+        ask("call 509", x.endpoint(NONE, 0), 0);
+        ask("call 510", x.undo(), true);
+        ask("call 511", x.undo(), true);
+        ask("call 512", x.about(8), 252);
     }
 }
