@@ -1301,6 +1301,11 @@ final class BoundaryOfAnswers extends Trees {
         endpoint(x, NONE, 0, 0, 3);
         x.start(0);
         ask("of DEVICE 0", x.units(0, 0), 8);
+        endpoint(x, NONE, 1, 1, 6);
+        endpoint(x, NONE, 2, 1, 0, 1, 0, 1, 0);
+        x.start(1);
+        x.start(2);
+        ask("KIND 1: 64 and three of 1", x.units(1, 0), 67);
     }
 
     @Sentence(in = "Promise 37", says = "1: of THINGS on the HOST's BUS,")
@@ -1365,6 +1370,8 @@ final class BoundaryOfAnswers extends Trees {
         BusRanges x = nested();
         ask("after POWER-UP", x.law(0), 0);
         ask("KIND 1 after POWER-UP", x.law(1), 0);
+        x.gap(NONE, 1);
+        ask("after another BUS was asked for", x.law(1), 0);
         x = rowOfTwos(4);
         ask("side by side, up to the end of the SPACE", x.law(0), 0);
         x = withSpace(32);

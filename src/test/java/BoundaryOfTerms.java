@@ -554,6 +554,16 @@ final class BoundaryOfTerms extends Trees {
         x.powerUp();
         ask("ALIGN 32 of one behind two, 48 units", x.window(1, 2), 0);
         ask("ALIGN 16, 64 units", x.window(0, 2), 48);
+        x = new BusRanges();
+        x.space(1, 1024);
+        x.bridge(NONE, 0, 0, 0);
+        endpoint(x, 0, 0, 1, 6, 1, 0);
+        x.bridge(NONE, 1, 0, 80);
+        endpoint(x, NONE, 2, 1, 6);
+        x.powerUp();
+        ask("KIND 1: ALIGN 64, 80 units", x.window(0, 4), 0);
+        Due.are("KIND 1: ALIGN 64, 64 units", bases(x, 3), 128);
+        ask("KIND 1: ALIGN 16, 80 units", x.window(2, 4), 192);
     }
 
     @Sentence(in = "Terms 2", says = "A WINDOW's size: NEED of the BUS behind, and what the BRIDGE leaves UNITS, rounded up to a multiple of 16;")
@@ -1098,7 +1108,11 @@ final class BoundaryOfTerms extends Trees {
     @Sentence(in = "Terms 2", says = "three at most, that may move:")
     static void rebalanceThreeAtMost() {
         ask("three", three().rebalance(7), 3);
-        BusRanges x = withSpace(32);
+        BusRanges x = lastRow();
+        ask("three, the last row of all", x.rebalance(7), 3);
+        Due.are("into the three gaps", bases(x, 6), 3, 7, 15);
+        Due.are("its own", bases(x, 7), 16);
+        x = withSpace(32);
         for (int i = 0; i < 8; i++) {
             endpoint(x, NONE, i, 0, 1, 0, 1);
             x.start(i);
@@ -1191,6 +1205,19 @@ final class BoundaryOfTerms extends Trees {
         endpoint(x, NONE, 3, 0, 2);
         ask("either would do", x.rebalance(3), 1);
         Due.are("the first by number", bases(x, 1), 6, 4);
+        x = withSpace(16);
+        int[] slots = {0, 7, 4, 1, 2};
+        for (int i = 0; i < 5; i++) {
+            endpoint(x, NONE, slots[i], 0, i == 2 ? 2 : 1);
+            x.start(i);
+        }
+        x.stop(2);
+        endpoint(x, NONE, 5, 0, 3);
+        ask("SLOTS 0 and 7 ahead of 1 and 2", x.rebalance(5), 2);
+        Due.are("SLOT 0", bases(x, 0), 12);
+        Due.are("SLOT 7", bases(x, 1), 14);
+        Due.are("SLOT 1 stays", bases(x, 3), 8);
+        Due.are("SLOT 2 stays", bases(x, 4), 10);
         x = three();
         x.rebalance(7);
         Due.are("three of SLOT 4, at 16 .. 18", bases(x, 6), 0, 1, 2);

@@ -191,6 +191,25 @@ abstract class Trees {
         return x;
     }
 
+    /**
+     * A SPACE of 24, in SLOTS 0 .. 6 ENDPOINTS that have 0 .. 2, 3, 4 .. 6, 7, 8 .. 14, 15 and 16 .. 18, of
+     * which those of one unit are stopped. For ENDPOINT 7, of 8 units, the three APERTURES of 6 must move,
+     * which is the last row of all.
+     */
+    static BusRanges lastRow() {
+        BusRanges x = withSpace(24);
+        int[][] apertures = {{0, 1, 0, 0}, {0, 0}, {0, 1, 0, 0}, {0, 0}, {0, 2, 0, 1, 0, 0}, {0, 0},
+            {0, 0, 0, 0, 0, 0}};
+        for (int slot = 0; slot < 7; slot++) {
+            x.start(endpoint(x, NONE, slot, apertures[slot]));
+        }
+        for (int device = 1; device < 7; device += 2) {
+            x.stop(device);
+        }
+        endpoint(x, NONE, 7, 0, 3);
+        return x;
+    }
+
     /** A SPACE of 2 units for each ENDPOINT 0 .. n - 1 in SLOTS 0 .. n - 1, all started: 2 units each. */
     static BusRanges rowOfTwos(int n) {
         BusRanges x = withSpace(2 * n);
